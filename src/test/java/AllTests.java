@@ -1,0 +1,16 @@
+/** Runs every test of the project; exit code 1 if one fails. */
+public final class AllTests {
+    public static void main(String[] args) {
+        Checks c = new Checks();
+        TapeTests.run(c);
+        ReadTests.run(c);
+        TableTests.run(c);
+        ElementTests.run(c);
+        ListTests.run(c);
+        SymbolTests.run(c);
+        ScanTests.run(c);
+        FaceTests.run(c);
+        System.out.println(c.passed() + " passed, " + c.failed() + " failed");
+        System.exit(c.failed() == 0 ? 0 : 1);
+    }
+}
