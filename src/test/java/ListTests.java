@@ -25,6 +25,7 @@ final class ListTests {
         c.same("8 elements", 4, x.list(0));
         c.same("8 bytes, with bytes 29 where they must stand", 16 + 4 + 1 + 4 + 3, x.list(1));
         c.same("8 symbols", 1, x.list(2));
+        c.same("8 bytes behind one that is not fixed", 7, Checks.pressWith("(90)A(91)B").list(1));
     }
 
     private static void symbols(Checks c) {

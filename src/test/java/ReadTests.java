@@ -166,6 +166,7 @@ final class ReadTests {
         c.faulty(3, 11, "(7006)25013");
         c.faulty(6, 6, "(7006)2513011");
         c.faulty(0, -1, "(7003)2501312359");
+        c.faulty(0, -1, "(7003)2501310000");
         c.faulty(6, 12, "(7003)2501312400");
         c.faulty(6, 12, "(7003)2501312360");
         c.faulty(6, 6, "(7003)2501322360");
@@ -241,6 +242,17 @@ final class ReadTests {
         c.faulty(8, 1, "(420)A(421)276A");
         c.faulty(8, 10, "(421)276A(420)A");
         c.faulty(0, -1, "(8018)106141411928374657");
+        c.faulty(0, -1, "(8019)1(8017)106141411928374657");
+        // 00 meets no want, and hinders none.
+        String pallet = "(00)106141411928374657";
+        c.faulty(0, -1, pallet + KEY);
+        c.faulty(0, -1, pallet + "(420)A");
+        c.faulty(0, -1, pallet + package37);
+        c.faulty(8, 1, "(37)5" + pallet);
+        c.faulty(8, 1, "(21)A" + pallet);
+        c.faulty(8, 1, "(3103)001250" + pallet);
+        c.faulty(8, 1, "(3922)199" + pallet);
+        c.faulty(8, 1, "(3902)199" + pallet);
         c.faulty(8, 1, "(8018)106141411928374657(8017)106141411928374657");
     }
 

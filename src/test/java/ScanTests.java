@@ -113,6 +113,13 @@ final class ScanTests {
         Checks.draw(x, Checks.modulesOf(Checks.framed(103, 18, 16, 17, 18)));
         c.same("31 set A", 1, x.scan());
         c.same("31 its list", "(20)12", Checks.outOf(x, true));
+        for (int set = 103; set <= 105; set++) {
+            x = new LabelPress();
+            int[] all = set == 105 ? Checks.framed(set, 20, 12) : Checks.framed(set, 18, 16, 17, 18);
+            Checks.draw(x, "000" + Checks.reversed(Checks.modulesOf(all)));
+            c.same("31 from the right with " + set, 1, x.scan());
+            c.same("32 from the right with " + set, 1, x.scanned(2));
+        }
     }
 
     private static void frameFaults(Checks c) {
@@ -196,6 +203,8 @@ final class ScanTests {
         tells(c, "(90)A", 104, 25, 16, 33);
         tells(c, "(90)12", 105, 90, 12);
         tells(c, "(90)a", 104, 25, 16, 65);
+        tells(c, "(90)_", 103, 25, 16, 63);
+        tells(c, "(90)_", 104, 25, 16, 98, 63);
         tells(c, "(90)A(91)B", 104, 25, 16, 33, 102, 25, 17, 34);
         tells(c, "(90)A(91)B", 103, 25, 16, 33, 102, 25, 17, 34);
         tells(c, "(90)12(91)34", 105, 90, 12, 102, 91, 34);
