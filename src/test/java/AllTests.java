@@ -10,7 +10,9 @@ public final class AllTests {
         SymbolTests.run(c);
         ScanTests.run(c);
         FaceTests.run(c);
-        System.out.println(c.passed() + " passed, " + c.failed() + " failed");
+        BoundaryTests.run(c);
+        System.out.println(c.passed() + " passed, " + c.failed() + " failed; " + c.sentences()
+            + " sentences with a test of their own");
         System.exit(c.failed() == 0 ? 0 : 1);
     }
 }

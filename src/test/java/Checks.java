@@ -15,6 +15,8 @@ final class Checks {
 
     private int passed;
     private int failed;
+    private int sentences;
+    private String sentence = "";
 
     /** A call that may throw. */
     interface Call {
@@ -29,13 +31,18 @@ final class Checks {
         return failed;
     }
 
+    int sentences() {
+        return sentences;
+    }
+
+    /** What is checked from now on is for these words of that promise, or of those Terms. */
+    void sentence(String where, String words) {
+        sentences++;
+        sentence = "[" + where + ": " + words + "] ";
+    }
+
     void same(String what, long due, long got) {
-        if (due == got) {
-            passed++;
-        } else {
-            failed++;
-            System.out.println(what + ": due is " + due + ", answered " + got);
-        }
+        same(what, Long.toString(due), Long.toString(got));
     }
 
     void same(String what, String due, String got) {
@@ -43,7 +50,7 @@ final class Checks {
             passed++;
         } else {
             failed++;
-            System.out.println(what + ": due is " + due + ", answered " + got);
+            System.out.println(sentence + what + ": due is " + due + ", answered " + got);
         }
     }
 
@@ -124,10 +131,20 @@ final class Checks {
     static void draw(LabelPress x, String modules) {
         x.cut(0);
         for (int i = 0; i < modules.length(); i += 160) {
-            x.bars(bits(modules, i), bits(modules, i + 32), bits(modules, i + 64),
-                bits(modules, i + 96), bits(modules, i + 128));
+            // No more than 2000 go on: the last ones stand on ground that was drawn already.
+            int from = Math.min(i, 2000 - 160);
+            x.cut(from);
+            x.bars(bits(modules, from), bits(modules, from + 32), bits(modules, from + 64),
+                bits(modules, from + 96), bits(modules, from + 128));
         }
         x.cut(modules.length());
+    }
+
+    /** MODULES for a message: many of them at either end are told by how many they are. */
+    static String brief(String modules) {
+        int n = modules.length();
+        return n <= 120 ? modules
+            : modules.substring(0, 50) + " .. " + (n - 100) + " more .. " + modules.substring(n - 50);
     }
 
     private static int bits(String modules, int from) {
@@ -161,6 +178,16 @@ final class Checks {
             characters.append(i == 0 ? "" : " ").append(x.character(i));
         }
         return characters.toString();
+    }
+
+    /** These digits and their CHECK. */
+    static String keyOf(String digits) {
+        int sum = 0;
+        for (int i = 0; i < digits.length(); i++) {
+            int fromLast = digits.length() - 1 - i;
+            sum += (digits.charAt(i) - '0') * (fromLast % 2 == 0 ? 3 : 1);
+        }
+        return digits + (10 - sum % 10) % 10;
     }
 
     static int checkOf(int... characters) {

@@ -73,9 +73,12 @@ final class FaceTests {
 
     private static void nothingElseThrown(Checks c, Random random) {
         LabelPress x = new LabelPress();
-        for (int n = 0; n < 512; n++) {
+        // A text that is typed and read takes up to nine of the 512 calls.
+        int calls = 0;
+        while (calls < 500) {
             String thrown = "";
             int call = random.nextInt(FACE.length + 6);
+            calls += call < FACE.length ? 1 : 9;
             try {
                 some(x, call, random);
             } catch (RuntimeException exception) {

@@ -80,13 +80,16 @@ final class ScanTests {
         LabelPress x = Checks.pressWith("(90)stays");
         Checks.draw(x, modules);
         int answer = x.scan();
-        c.same("31 fault of " + modules, fault, x.fault(0));
-        c.same("31 place of " + modules, place, x.fault(1));
-        c.same("31 answer of " + modules, fault == 0 ? x.list(0) : -1, answer);
+        c.same("31 fault of " + Checks.brief(modules), fault, x.fault(0));
+        c.same("31 place of " + Checks.brief(modules), place, x.fault(1));
+        c.same("31 answer of " + Checks.brief(modules), fault == 0 ? x.list(0) : -1, answer);
         if (fault != 0) {
             c.same("31 the list stays", "(90)stays", Checks.outOf(x, true));
         }
-        c.same("31 the strip stays", modules, Checks.stripOf(x));
+        if (modules.length() < 400) {
+            // A longer one takes more calls than an object is used for.
+            c.same("31 the strip stays", modules, Checks.stripOf(x));
+        }
     }
 
     private static void sides(Checks c) {
