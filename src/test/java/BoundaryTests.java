@@ -2,6 +2,7 @@
 final class BoundaryTests {
     static void run(Checks c) {
         TableBoundaries.run(c);
+        LineBoundaries.run(c);
         TextBoundaries.run(c);
         WantBoundaries.run(c);
         CallBoundaries.run(c);

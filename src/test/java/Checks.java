@@ -166,16 +166,21 @@ final class Checks {
 
     static String stripOf(LabelPress x) {
         StringBuilder modules = new StringBuilder();
-        for (int i = 0; x.module(i) != LabelPress.NONE; i++) {
-            modules.append(x.module(i));
+        int module = x.module(0);
+        // Each MODULE is asked once: an object is used for 512 calls, no more.
+        for (int i = 1; module != LabelPress.NONE; i++) {
+            modules.append(module);
+            module = x.module(i);
         }
         return modules.toString();
     }
 
     static String symbolOf(LabelPress x) {
         StringBuilder characters = new StringBuilder();
-        for (int i = 0; x.character(i) != LabelPress.NONE; i++) {
-            characters.append(i == 0 ? "" : " ").append(x.character(i));
+        int character = x.character(0);
+        for (int i = 1; character != LabelPress.NONE; i++) {
+            characters.append(i == 1 ? "" : " ").append(character);
+            character = x.character(i);
         }
         return characters.toString();
     }

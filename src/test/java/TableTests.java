@@ -4,7 +4,7 @@ import java.util.List;
 /** The table: each AI with its PARTS, and no other AI (promises 6, 9, 11). */
 final class TableTests {
     // As the document has it: AIS (p as the fourth digit up to the one named), then PARTS.
-    private static final String[] LINES = {
+    static final String[] LINES = {
         "00 k18", "01 02 k14", "10 21 22 x..20", "11 12 13 15 16 17 d", "20 n2", "30 37 n..8",
         "90 x..30", "91-99 x..90", "235 x..28", "240 241 250 251 x..30", "242 n..6",
         "243 254 x..20", "253 k13 [x..17", "255 k13 [n..12", "400 401 403 x..30", "402 k17",
@@ -32,7 +32,7 @@ final class TableTests {
         noOther(c, known);
     }
 
-    private static void split(String line, List<String> ais, List<String> parts) {
+    static void split(String line, List<String> ais, List<String> parts) {
         for (String word : line.split(" ")) {
             if (word.charAt(0) < '0' || word.charAt(0) > '9') {
                 parts.add(word);
@@ -54,15 +54,15 @@ final class TableTests {
         }
     }
 
-    private static boolean isOptional(String part) {
+    static boolean isOptional(String part) {
         return part.startsWith("[");
     }
 
-    private static String plain(String part) {
+    static String plain(String part) {
         return part.replace("[", "");
     }
 
-    private static int most(String part) {
+    static int most(String part) {
         String plain = plain(part);
         if (plain.equals("d")) {
             return 6;
@@ -73,7 +73,7 @@ final class TableTests {
         return Integer.parseInt(plain.replaceAll("[a-z.]", ""));
     }
 
-    private static String sample(String part, int bytes) {
+    static String sample(String part, int bytes) {
         String plain = plain(part);
         switch (plain.charAt(0)) {
             case 'x':
@@ -88,7 +88,7 @@ final class TableTests {
     }
 
     /** What must stand ahead so that the WANTS of that AI are met. */
-    private static String companion(String ai) {
+    static String companion(String ai) {
         if (ai.equals("02")) {
             return "(37)1";
         }
