@@ -10,6 +10,7 @@ public final class AllTests {
         SymbolTests.run(c);
         ScanTests.run(c);
         FaceTests.run(c);
+        AgainTests.run(c);
         BoundaryTests.run(c);
         System.out.println(c.passed() + " passed, " + c.failed() + " failed; " + c.sentences()
             + " sentences with a test of their own");

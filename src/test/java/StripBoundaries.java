@@ -3,6 +3,8 @@ import java.util.Arrays;
 /** Terms, 4, and promises 26 to 32: bounds of the strip, and FAULTS of what is scanned from it. */
 final class StripBoundaries {
     private static final String GOOD = Checks.modulesOf(Checks.framed(105, 20, 12));
+    private static final String EARLIER = "00000"
+        + Checks.modulesOf(Checks.framed(104, 25, 16, 33, 34, 35, 96)) + "000";
 
     static void run(Checks c) {
         barsBits(c);
@@ -141,6 +143,9 @@ final class StripBoundaries {
     /** What the strip is scanned as: the FAULT and its place. */
     private static void scans(Checks c, int fault, int place, String modules) {
         LabelPress x = new LabelPress();
+        // An earlier scan, with other places and CHARACTERS, leaves nothing behind.
+        Checks.draw(x, EARLIER);
+        x.scan();
         Checks.draw(x, modules);
         int answer = x.scan();
         String what = " of " + Checks.brief(modules);
