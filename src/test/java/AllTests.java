@@ -10,8 +10,10 @@ public final class AllTests {
         SymbolTests.run(c);
         ScanTests.run(c);
         FaceTests.run(c);
+        LanguageTests.run(c);
         AgainTests.run(c);
         BoundaryTests.run(c);
+        ReadmeTests.run(c);
         System.out.println(c.passed() + " passed, " + c.failed() + " failed; " + c.sentences()
             + " sentences with a test of their own");
         System.exit(c.failed() == 0 ? 0 : 1);

@@ -1,3 +1,7 @@
+import java.io.IOException;
+import java.nio.file.Files;
+import java.nio.file.Path;
+
 /** Counts checks, and does for tests what takes several calls: typing texts, drawing strips. */
 final class Checks {
     static final String KEY14 = "04012345123456";
@@ -229,6 +233,16 @@ final class Checks {
             }
         }
         return modules.toString();
+    }
+
+    /** A file of the project, which lies where .ci/run tells. */
+    static String projectText(String file) {
+        String root = System.getProperty("project.root", ".");
+        try {
+            return Files.readString(Path.of(root, file));
+        } catch (IOException missing) {
+            throw new IllegalStateException("no " + file + " under " + root);
+        }
     }
 
     static String reversed(String text) {
